@@ -729,9 +729,10 @@ public final class DecimalDesk {
                 }
                 rest[at + i] = left;
             }
-            long top = rest[at + length] - carry;
-            rest[at + length] = top < 0 ? (int) (top + BASE) : (int) top;
-            return top < 0;
+            boolean tooMuch = rest[at + length] < carry;
+            // What stays is below the divisor, if need be when that has been given back.
+            rest[at + length] = 0;
+            return tooMuch;
         }
 
         private void giveBack(int[] rest, int at) {
@@ -741,8 +742,6 @@ public final class DecimalDesk {
                 carry = part >= 0 ? 1 : 0;
                 rest[at + i] = part >= 0 ? part : part + BASE;
             }
-            // The carry meets the borrow that is given back with it.
-            rest[at + divisor.size] = 0;
         }
     }
 
@@ -763,7 +762,7 @@ public final class DecimalDesk {
             boolean exact = false;
             found.claim(0);
             int known = 0;
-            for (int round = 0; round < SCRATCH_LIMBS && known < wanted; round++) {
+            for (int level = 0; level < SCRATCH_LIMBS && known < wanted; level++) {
                 // A step doubles the right digits, but the top limb may be one small digit alone.
                 int next = Math.min(wanted, Math.max(known + 1, 2 * known - 1));
                 head.copy(square);

@@ -15,6 +15,7 @@ public final class ArithmeticPromisesTest {
         multiply();
         divideByModes();
         divideAtTheLimits();
+        beyondTheRoom();
         quotient();
         quotientExactly();
         quotientAtTheLimits();
@@ -183,6 +184,26 @@ public final class ArithmeticPromisesTest {
         CHECK.illegal(desk, "divide to the most", () -> desk.divide(0, 1, 2, Integer.MAX_VALUE, 0));
     }
 
+    /** From the last digits that a register can have to more than there is room for. */
+    private static void beyondTheRoom() {
+        DecimalDesk desk = Check.desk("-3", NINES, "0", "7.25");
+        for (int i = 1000; i < 2100; i++) {
+            int scale = i;
+            CHECK.due("3 / 3 to " + i, Check.thrown(() -> desk.divide(0, 0, 3, scale, 0)), "ArithmeticException");
+            CHECK.due("nines / 3 to " + i, Check.thrown(() -> desk.divide(1, 0, 3, scale, 0)), "ArithmeticException");
+            CHECK.due("3 / nines to " + i, Check.thrown(() -> desk.divide(0, 1, 3, scale, 1)),
+                    i < 2000 ? "" : "ArithmeticException");
+            desk.put(3, 725, 2);
+            CHECK.due("3 to " + i, Check.thrown(() -> desk.toScale(0, 3, scale, 7)), "ArithmeticException");
+            desk.put(4, 0, i);
+            CHECK.due("3 and 0 at " + i, Check.thrown(() -> desk.add(0, 4, 3, false)), "ArithmeticException");
+            CHECK.due("0 at " + i + " less 3", Check.thrown(() -> desk.add(4, 0, 3, true)), "ArithmeticException");
+            CHECK.due("0 and 0 at " + i, Check.thrown(() -> desk.add(2, 4, 5, true)), "");
+            CHECK.due("0 and 0 at " + i, Check.told(desk, 5), "0s" + i);
+        }
+        CHECK.due("all those changed nothing", Check.told(desk, 3), "725s2");
+    }
+
     private static void quotient() {
         gives("quotient", "1.2", "0.4", quotient(5, 6), "3s0");
         gives("quotient", "1.200", "0.4", quotient(5, 6), "300s2");
@@ -204,6 +225,8 @@ public final class ArithmeticPromisesTest {
         gives("quotient", "299999", "3", quotient(6, 4), "999997s1");
         gives("quotient", "0.000", "7", quotient(5, 7), "0s3");
         gives("quotient", "0", "-7.00", quotient(5, 7), "0s-2");
+        gives("quotient", "105", "100", quotient(2, 1), "10s1");
+        gives("quotient", "105", "100", quotient(3, 1), "105s2");
         fails("quotient", "1", "3", quotient(5, 7));
         fails("quotient", "1", "8", quotient(2, 7));
         fails("quotient", "1", "0", quotient(5, 4));

@@ -1,19 +1,25 @@
 import java.math.BigInteger;
 import java.util.Random;
 
-/** Many calls with numbers of all shapes, each against the model (promises 4 to 20). */
+/**
+ * Many calls, each against the model (promises 4 to 20): some with numbers of all shapes and lengths,
+ * more with short ones, where the cases that rounding tells apart are near each other.
+ */
 public final class OracleTest {
     private static final int RUNS = 24;
+    private static final int SHORT_RUNS = 2000;
     private static final int CALLS = 60;
 
     private final Random random;
     private final Check check;
+    private final boolean isShort;
     private final DecimalDesk desk = new DecimalDesk();
     private final Model.Dec[] model = new Model.Dec[10];
 
-    private OracleTest(Random random, Check check) {
+    private OracleTest(Random random, Check check, boolean isShort) {
         this.random = random;
         this.check = check;
+        this.isShort = isShort;
         java.util.Arrays.fill(model, new Model.Dec(BigInteger.ZERO, 0));
     }
 
@@ -22,8 +28,8 @@ public final class OracleTest {
         long seed = args.length > 0 ? Long.parseLong(args[0]) : 1;
         int runs = args.length > 1 ? Integer.parseInt(args[1]) : RUNS;
         Random random = new Random(seed);
-        for (int i = 0; i < runs; i++) {
-            OracleTest run = new OracleTest(random, check);
+        for (int i = 0; i < runs + SHORT_RUNS; i++) {
+            OracleTest run = new OracleTest(random, check, i >= runs);
             for (int j = 0; j < CALLS; j++) {
                 run.step();
             }
@@ -37,6 +43,9 @@ public final class OracleTest {
     }
 
     private int length() {
+        if (isShort) {
+            return 1 + upTo(3);
+        }
         switch (random.nextInt(6)) {
             case 0: return 1 + upTo(3);
             case 1: return 1 + upTo(30);
@@ -73,6 +82,9 @@ public final class OracleTest {
     }
 
     private int scale() {
+        if (isShort) {
+            return upTo(6) - 3;
+        }
         switch (random.nextInt(8)) {
             case 0: return 0;
             case 1: return 10000 - upTo(20);
@@ -84,6 +96,9 @@ public final class OracleTest {
     }
 
     private int precision() {
+        if (isShort) {
+            return upTo(5);
+        }
         switch (random.nextInt(5)) {
             case 0: return 0;
             case 1: return 1000 - upTo(2);
@@ -94,7 +109,7 @@ public final class OracleTest {
 
     private BigInteger number() {
         BigInteger number = new BigInteger(digits(length()));
-        switch (random.nextInt(8)) {
+        switch (isShort ? 2 + random.nextInt(3) : random.nextInt(8)) {
             case 0:
                 number = BigInteger.TWO.pow(upTo(200)).multiply(BigInteger.valueOf(5).pow(upTo(200)));
                 break;
@@ -209,7 +224,7 @@ public final class OracleTest {
                         () -> desk.root(a, to, least, mode), () -> Model.root(x, least, mode));
                 break;
             case 8:
-                int near = random.nextBoolean() ? scale : nearScale(x.scale + upTo(1000) - 900);
+                int near = random.nextBoolean() ? scale : nearScale(x.scale + (isShort ? upTo(5) - 4 : upTo(1000) - 900));
                 both("toScale" + with + near + ", " + mode, to,
                         () -> desk.toScale(a, to, near, mode), () -> Model.toScale(Model.Real.of(x), near, mode));
                 break;
@@ -246,7 +261,7 @@ public final class OracleTest {
         Model.Dec y = model[b];
         // A scale that leaves some 0 to 1000 digits of the quotient, or any other.
         long lead = x.precision() - x.scale - y.precision() + y.scale;
-        int scale = random.nextInt(4) == 0 ? scale() : nearScale(upTo(1010) - 5 - lead);
+        int scale = isShort || random.nextInt(4) == 0 ? scale() : nearScale(upTo(1010) - 5 - lead);
         both("divide(" + x + ", " + y + ", " + scale + ", " + mode, to,
                 () -> desk.divide(a, b, to, scale, mode), () -> Model.toScale(Model.ratio(x, y), scale, mode));
     }
@@ -254,7 +269,7 @@ public final class OracleTest {
     private void power(int a, int to) {
         Model.Dec x = model[a];
         int fitting = 1000 / Math.max(1, x.precision() - 1);
-        int n = random.nextInt(3) == 0 ? upTo(999) : Math.min(999, upTo(fitting + 2));
+        int n = isShort ? upTo(4) : random.nextInt(3) == 0 ? upTo(999) : Math.min(999, upTo(fitting + 2));
         both("power(" + x + ", " + n, to, () -> desk.power(a, n, to), () -> Model.power(x, n));
     }
 

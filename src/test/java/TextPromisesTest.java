@@ -1,3 +1,5 @@
+import java.math.BigInteger;
+
 /** Promises 1 to 5, 20 and 21: the new object, the draft, what is read and put, what is written. */
 public final class TextPromisesTest {
     private static final Check CHECK = new Check();
@@ -17,6 +19,7 @@ public final class TextPromisesTest {
         writtenKind1();
         writtenKind2();
         writtenLong();
+        writtenOfEveryLength();
         character();
         CHECK.finish();
     }
@@ -111,6 +114,10 @@ public final class TextPromisesTest {
         for (String text : texts) {
             notSaid(text);
         }
+        notSaid(Check.repeat("1", 1099) + "e");
+        notSaid(Check.repeat("1", 1098) + "e-");
+        notSaid(Check.repeat("1", 1098) + "e.");
+        notSaid(Check.repeat(".", 1100));
         DecimalDesk desk = new DecimalDesk();
         Check.draft(desk, "x");
         CHECK.illegal(desk, "the register comes first", () -> desk.read(10));
@@ -191,6 +198,9 @@ public final class TextPromisesTest {
         writes("1.23", 1, "1.23");
         writes("-0.0000000123", 1, "-0.0000000123");
         writes("12.3e-2", 1, "0.123");
+        writes("-1.5", 1, "-1.5");
+        writes("0.5", 1, "0.5");
+        writes("0.0", 1, "0.0");
     }
 
     private static void writtenKind2() {
@@ -231,6 +241,19 @@ public final class TextPromisesTest {
         writes("-" + digits, 0, "-" + digits);
         writes(digits + "e-1", 0, digits.substring(0, 999) + ".0");
         writes("-" + digits + "e-1006", 0, "-1." + digits.substring(1) + "E-7");
+    }
+
+    /** Round the length up to which texts stand in the short row. */
+    private static void writtenOfEveryLength() {
+        for (int zeros = 1050; zeros < 1130; zeros++) {
+            writes("-7e" + zeros, 1, "-7" + Check.repeat("0", zeros));
+            writes("-7e-" + zeros, 1, "-0." + Check.repeat("0", zeros - 1) + "7");
+        }
+        for (int digits = 1; digits <= 1000; digits += 37) {
+            String number = Check.repeat("4", digits);
+            writes("-" + number + "e-5", 1, Model.written(new Model.Dec(new BigInteger("-" + number), 5), 1));
+            writes("-" + number + "e5", 2, Model.written(new Model.Dec(new BigInteger("-" + number), -5), 2));
+        }
     }
 
     private static void character() {
