@@ -106,11 +106,7 @@ public final class DecimalDesk {
         demandRegisters(a, b, to);
         Decimal x = registers[a];
         Decimal y = registers[b];
-        int scale = Math.max(x.scale, y.scale);
-        rough.take(x);
-        rough.cutTo(scale);
-        other.copy(y.number);
-        other.move(scale - y.scale);
+        align(x, y);
         addSigned(y.negative != less);
         keep(to);
     }
@@ -172,8 +168,7 @@ public final class DecimalDesk {
     }
 
     public void power(int a, int n, int to) throws IllegalArgumentException, ArithmeticException {
-        demandRegister(a);
-        demandRegister(to);
+        demandRegisters(a, to);
         if (n < 0 || n > HIGHEST_POWER) {
             throw new IllegalArgumentException("a power is 0 .. 999");
         }
@@ -190,8 +185,7 @@ public final class DecimalDesk {
     }
 
     public void root(int a, int to, int precision, int mode) throws IllegalArgumentException, ArithmeticException {
-        demandRegister(a);
-        demandRegister(to);
+        demandRegisters(a, to);
         demandMode(mode);
         demandPrecision(precision, 1);
         Decimal x = registers[a];
@@ -213,8 +207,7 @@ public final class DecimalDesk {
     }
 
     public void toScale(int a, int to, int scale, int mode) throws IllegalArgumentException, ArithmeticException {
-        demandRegister(a);
-        demandRegister(to);
+        demandRegisters(a, to);
         demandMode(mode);
         demandWantedScale(scale);
         rough.take(registers[a]);
@@ -224,8 +217,7 @@ public final class DecimalDesk {
     }
 
     public void round(int a, int to, int precision, int mode) throws IllegalArgumentException, ArithmeticException {
-        demandRegister(a);
-        demandRegister(to);
+        demandRegisters(a, to);
         demandMode(mode);
         demandPrecision(precision, 1);
         Decimal x = registers[a];
@@ -235,8 +227,7 @@ public final class DecimalDesk {
     }
 
     public void strip(int a, int to) throws IllegalArgumentException, ArithmeticException {
-        demandRegister(a);
-        demandRegister(to);
+        demandRegisters(a, to);
         rough.take(registers[a]);
         if (rough.number.isZero()) {
             rough.scale = 0;
@@ -247,8 +238,7 @@ public final class DecimalDesk {
     }
 
     public void shift(int a, int to, int n) throws IllegalArgumentException, ArithmeticException {
-        demandRegister(a);
-        demandRegister(to);
+        demandRegisters(a, to);
         long scale = (long) registers[a].scale - n;
         demandScale(scale);
         rough.take(registers[a]);
@@ -257,16 +247,14 @@ public final class DecimalDesk {
     }
 
     public void negate(int a, int to) throws IllegalArgumentException {
-        demandRegister(a);
-        demandRegister(to);
+        demandRegisters(a, to);
         rough.take(registers[a]);
         rough.negative = !rough.negative;
         keep(to);
     }
 
     public int compare(int a, int b) throws IllegalArgumentException {
-        demandRegister(a);
-        demandRegister(b);
+        demandRegisters(a, b);
         Decimal x = registers[a];
         Decimal y = registers[b];
         if (x.sign() != y.sign() || x.sign() == 0) {
@@ -312,9 +300,13 @@ public final class DecimalDesk {
         }
     }
 
+    private static void demandRegisters(int one, int another) {
+        demandRegister(one);
+        demandRegister(another);
+    }
+
     private static void demandRegisters(int a, int b, int to) {
-        demandRegister(a);
-        demandRegister(b);
+        demandRegisters(a, b);
         demandRegister(to);
     }
 
@@ -365,6 +357,15 @@ public final class DecimalDesk {
         registers[to].accept(rough);
     }
 
+    /** At the greater one of their scales, where both numbers stand for the same unit. */
+    private void align(Decimal x, Decimal y) {
+        int scale = Math.max(x.scale, y.scale);
+        rough.take(x);
+        rough.cutTo(scale);
+        other.copy(y.number);
+        other.move(scale - y.scale);
+    }
+
     private void addSigned(boolean otherNegative) {
         Natural sum = rough.number;
         if (rough.negative == otherNegative) {
@@ -411,11 +412,7 @@ public final class DecimalDesk {
             return Integer.compare(lead, otherLead);
         }
         // With the same lead the scales differ as the digits do, by less than 1000.
-        int scale = Math.max(x.scale, y.scale);
-        rough.take(x);
-        rough.cutTo(scale);
-        other.copy(y.number);
-        other.move(scale - y.scale);
+        align(x, y);
         return rough.number.order(other);
     }
 

@@ -1,4 +1,3 @@
-import java.math.BigInteger;
 
 /** What the tests share: calls by texts, whole registers as texts, and the count of wrong answers. */
 final class Check {
@@ -83,7 +82,7 @@ final class Check {
 
     static String lastWritten(DecimalDesk desk) {
         int length = 0;
-        while (desk.character(length) != DecimalDesk.NONE) {
+        while (length < 20000 && desk.character(length) != DecimalDesk.NONE) {
             length++;
         }
         return lastWritten(desk, length);
@@ -117,7 +116,4 @@ final class Check {
         return part.repeat(times);
     }
 
-    static BigInteger ten(int power) {
-        return BigInteger.TEN.pow(power);
-    }
 }
