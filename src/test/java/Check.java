@@ -1,4 +1,3 @@
-
 /** What the tests share: calls by texts, whole registers as texts, and the count of wrong answers. */
 final class Check {
     private int wrong;
@@ -115,5 +114,4 @@ final class Check {
     static String repeat(String part, int times) {
         return part.repeat(times);
     }
-
 }
