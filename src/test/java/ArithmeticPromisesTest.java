@@ -3,8 +3,8 @@ import java.math.BigInteger;
 /** Promises 6 to 12: add, multiply, divide, quotient, remainder, power and root. */
 public final class ArithmeticPromisesTest {
     private static final Check CHECK = new Check();
-    private static final String NINES = Check.repeat("9", 1000);
-    private static final String TEN_TO_999 = "1" + Check.repeat("0", 999);
+    private static final String NINES = "9".repeat(1000);
+    private static final String TEN_TO_999 = "1" + "0".repeat(999);
 
     private ArithmeticPromisesTest() {
     }
@@ -28,43 +28,42 @@ public final class ArithmeticPromisesTest {
         CHECK.finish();
     }
 
-    /** A call on the registers 0 and 1, into 2. */
-    private interface Call {
-        void on(DecimalDesk desk);
-    }
-
-    private static void gives(String what, String a, String b, Call call, String due) {
+    /** A call on the registers 0 and 1, into 2, that leaves those as they were. */
+    private static void gives(String what, String a, String b, Check.Call call, String due) {
         DecimalDesk desk = Check.desk(a, b);
-        what = what + " of " + a + " and " + b;
-        CHECK.due(what, Check.thrown(() -> call.on(desk)), "");
-        CHECK.due(what, Check.told(desk, 2), due);
-        CHECK.due(what + " leaves a", Check.told(desk, 0), Check.told(Check.desk(a), 0));
-        CHECK.due(what + " leaves b", Check.told(desk, 1), Check.told(Check.desk(b), 0));
+        what += Check.of(a, b);
+        desk.shift(0, 3, 0);
+        desk.shift(1, 4, 0);
+        CHECK.due(what + " throws", Check.thrown(() -> call.on(desk)), "");
+        CHECK.holds(what, desk, 2, due);
+        for (int i = 0; i < 2; i++) {
+            CHECK.due(what + " leaves " + i, desk.compare(i, 3 + i), 0);
+            CHECK.due(what + " leaves the scale of " + i, desk.told(i, 1), desk.told(3 + i, 1));
+        }
     }
 
-    private static void fails(String what, String a, String b, Call call) {
-        DecimalDesk desk = Check.desk(a, b, "7.25");
-        CHECK.arithmetic(desk, what + " of " + a + " and " + b, () -> call.on(desk));
+    private static void fails(String what, String a, String b, Check.Call call) {
+        CHECK.arithmetic(what, call, a, b, "7.25");
     }
 
-    private static final Call SUM = desk -> desk.add(0, 1, 2, false);
-    private static final Call LESS = desk -> desk.add(0, 1, 2, true);
-    private static final Call PRODUCT = desk -> desk.multiply(0, 1, 2);
-    private static final Call REST = desk -> desk.remainder(0, 1, 2);
+    private static final Check.Call SUM = desk -> desk.add(0, 1, 2, false);
+    private static final Check.Call LESS = desk -> desk.add(0, 1, 2, true);
+    private static final Check.Call PRODUCT = desk -> desk.multiply(0, 1, 2);
+    private static final Check.Call REST = desk -> desk.remainder(0, 1, 2);
 
-    private static Call divided(int scale, int mode) {
+    private static Check.Call divided(int scale, int mode) {
         return desk -> desk.divide(0, 1, 2, scale, mode);
     }
 
-    private static Call quotient(int precision, int mode) {
+    private static Check.Call quotient(int precision, int mode) {
         return desk -> desk.quotient(0, 1, 2, precision, mode);
     }
 
-    private static Call raised(int n) {
+    private static Check.Call raised(int n) {
         return desk -> desk.power(0, n, 2);
     }
 
-    private static Call rooted(int precision, int mode) {
+    private static Check.Call rooted(int precision, int mode) {
         return desk -> desk.root(0, 2, precision, mode);
     }
 
@@ -90,7 +89,7 @@ public final class ArithmeticPromisesTest {
     private static void addAtTheLimits() {
         gives("less", "1e1000", NINES, LESS, "1s0");
         gives("add", "-" + NINES, "1e1000", SUM, "1s0");
-        gives("add", "9e999", Check.repeat("9", 999), SUM, NINES + "s0");
+        gives("add", "9e999", "9".repeat(999), SUM, NINES + "s0");
         fails("add", NINES, "1", SUM);
         fails("less", "-" + NINES, "1", LESS);
         fails("less", "1e1001", NINES, LESS);
@@ -110,8 +109,8 @@ public final class ArithmeticPromisesTest {
         gives("multiply", "1e5000", "1e5000", PRODUCT, "1s-10000");
         gives("multiply", "1e-5000", "1e-5000", PRODUCT, "1s10000");
         gives("multiply", NINES, "1", PRODUCT, NINES + "s0");
-        gives("multiply", Check.repeat("9", 500), Check.repeat("9", 500), PRODUCT,
-                Check.repeat("9", 499) + "8" + Check.repeat("0", 499) + "1s0");
+        gives("multiply", "9".repeat(500), "9".repeat(500), PRODUCT,
+                "9".repeat(499) + "8" + "0".repeat(499) + "1s0");
         fails("multiply", NINES, "2", PRODUCT);
         fails("multiply", NINES, NINES, PRODUCT);
         fails("multiply", "1e5000", "1e5001", PRODUCT);
@@ -161,47 +160,46 @@ public final class ArithmeticPromisesTest {
         gives("divide", "1e-10000", "1e10000", divided(10000, 0), "1s10000");
         gives("divide", "1e-10000", "-1e10000", divided(10000, 4), "0s10000");
         gives("divide", "5e-10000", "1e10000", divided(-10000, 2), "1s-10000");
-        gives("divide", "1e10000", "1e10000", divided(999, 7), "1" + Check.repeat("0", 999) + "s999");
+        gives("divide", "1e10000", "1e10000", divided(999, 7), "1" + "0".repeat(999) + "s999");
         gives("divide", NINES, "1", divided(0, 7), NINES + "s0");
-        gives("divide", "2e999", NINES + "e1", divided(1000, 1), "2" + Check.repeat("0", 998) + "s1000");
+        gives("divide", "2e999", NINES + "e1", divided(1000, 1), "2" + "0".repeat(998) + "s1000");
         fails("divide", "1e10000", "1e10000", divided(1000, 7));
         fails("divide", "1e10000", "1e-10000", divided(10000, 1));
         fails("divide", NINES, "0.1", divided(0, 7));
         fails("divide", NINES, "1e1", divided(2, 0));
-        gives("divide", NINES, "1e1", divided(0, 1), Check.repeat("9", 999) + "s0");
+        gives("divide", NINES, "1e1", divided(0, 1), "9".repeat(999) + "s0");
         fails("divide", "1", "3", divided(5, 7));
         fails("divide", "1", "0", divided(5, 4));
         fails("divide", "0", "0.00", divided(0, 0));
-        gives("divide", Check.repeat("9", 999) + "5", "10", divided(0, 4), "1" + Check.repeat("0", 999) + "s0");
+        gives("divide", "9".repeat(999) + "5", "10", divided(0, 4), "1" + "0".repeat(999) + "s0");
         gives("divide", "5", "2", divided(0, 6), "2s0");
         gives("divide", "7", "2", divided(0, 6), "4s0");
         gives("divide", "500000000000000001", "1e18", divided(0, 5), "1s0");
         gives("divide", "499999999999999999", "1e18", divided(0, 4), "0s0");
-        DecimalDesk desk = Check.desk("1", "0");
-        CHECK.illegal(desk, "divide to 10001", () -> desk.divide(0, 1, 2, 10001, 0));
-        CHECK.illegal(desk, "divide to -10001", () -> desk.divide(0, 1, 2, -10001, 0));
-        CHECK.illegal(desk, "divide to the least", () -> desk.divide(0, 1, 2, Integer.MIN_VALUE, 0));
-        CHECK.illegal(desk, "divide to the most", () -> desk.divide(0, 1, 2, Integer.MAX_VALUE, 0));
     }
 
     /** From the last digits that a register can have to more than there is room for. */
     private static void beyondTheRoom() {
-        DecimalDesk desk = Check.desk("-3", NINES, "0", "7.25");
-        for (int i = 1000; i < 2100; i++) {
-            int scale = i;
-            CHECK.due("3 / 3 to " + i, Check.thrown(() -> desk.divide(0, 0, 3, scale, 0)), "ArithmeticException");
-            CHECK.due("nines / 3 to " + i, Check.thrown(() -> desk.divide(1, 0, 3, scale, 0)), "ArithmeticException");
-            CHECK.due("3 / nines to " + i, Check.thrown(() -> desk.divide(0, 1, 3, scale, 1)),
-                    i < 2000 ? "" : "ArithmeticException");
-            desk.put(3, 725, 2);
-            CHECK.due("3 to " + i, Check.thrown(() -> desk.toScale(0, 3, scale, 7)), "ArithmeticException");
-            desk.put(4, 0, i);
-            CHECK.due("3 and 0 at " + i, Check.thrown(() -> desk.add(0, 4, 3, false)), "ArithmeticException");
-            CHECK.due("0 at " + i + " less 3", Check.thrown(() -> desk.add(4, 0, 3, true)), "ArithmeticException");
-            CHECK.due("0 and 0 at " + i, Check.thrown(() -> desk.add(2, 4, 5, true)), "");
-            CHECK.due("0 and 0 at " + i, Check.told(desk, 5), "0s" + i);
+        for (int scale = 1000; scale < 2100; scale++) {
+            beyondTheRoom(scale, scale < 2000 ? "" : "ArithmeticException");
         }
-        CHECK.due("all those changed nothing", Check.told(desk, 3), "725s2");
+    }
+
+    private static void beyondTheRoom(int scale, String smallQuotient) {
+        DecimalDesk desk = Check.desk("-3", NINES);
+        desk.put(3, 725, 2);
+        desk.put(4, 0, scale);
+        String refused = "ArithmeticException";
+        String to = " to " + scale;
+        CHECK.due("3 / 3" + to, Check.thrown(() -> desk.divide(0, 0, 3, scale, 0)), refused);
+        CHECK.due("nines / 3" + to, Check.thrown(() -> desk.divide(1, 0, 3, scale, 0)), refused);
+        CHECK.due("3" + to, Check.thrown(() -> desk.toScale(0, 3, scale, 7)), refused);
+        CHECK.due("3 and 0 at " + scale, Check.thrown(() -> desk.add(0, 4, 3, false)), refused);
+        CHECK.due("0 less 3 at " + scale, Check.thrown(() -> desk.add(4, 0, 3, true)), refused);
+        CHECK.holds("all those changed nothing" + to, desk, 3, "725s2");
+        CHECK.due("0 and 0 at " + scale, Check.thrown(() -> desk.add(2, 4, 5, true)), "");
+        CHECK.holds("0 and 0 at " + scale, desk, 5, "0s" + scale);
+        CHECK.due("3 / nines" + to, Check.thrown(() -> desk.divide(0, 1, 3, scale, 1)), smallQuotient);
     }
 
     private static void quotient() {
@@ -231,9 +229,6 @@ public final class ArithmeticPromisesTest {
         fails("quotient", "1", "8", quotient(2, 7));
         fails("quotient", "1", "0", quotient(5, 4));
         fails("quotient", "0", "0", quotient(0, 4));
-        DecimalDesk desk = Check.desk("1", "0");
-        CHECK.illegal(desk, "quotient with -1", () -> desk.quotient(0, 1, 2, -1, 0));
-        CHECK.illegal(desk, "quotient with 1001", () -> desk.quotient(0, 1, 2, 1001, 0));
     }
 
     private static void quotientExactly() {
@@ -264,8 +259,8 @@ public final class ArithmeticPromisesTest {
         fails("quotient", "1e10000", "0.1", quotient(0, 1));
         fails("quotient", "0e-10000", "1e1", quotient(5, 1));
         fails("quotient", "0e10000", "0.1", quotient(0, 1));
-        gives("quotient", "1", "3", quotient(1000, 1), Check.repeat("3", 1000) + "s1000");
-        gives("quotient", "2", "3", quotient(1000, 4), Check.repeat("6", 999) + "7s1000");
+        gives("quotient", "1", "3", quotient(1000, 1), "3".repeat(1000) + "s1000");
+        gives("quotient", "2", "3", quotient(1000, 4), "6".repeat(999) + "7s1000");
         gives("quotient", "1", NINES, quotient(1000, 1), TEN_TO_999 + "s1999");
         gives("quotient", NINES, "1", quotient(1, 1), "9s-999");
         gives("quotient", NINES, "1", quotient(1, 0), "1s-1000");
@@ -320,9 +315,6 @@ public final class ArithmeticPromisesTest {
         fails("power 999", NINES, "0", raised(999));
         fails("power 2", "1e5001", "0", raised(2));
         fails("power 999", "0e-11", "0", raised(999));
-        DecimalDesk desk = Check.desk("1");
-        CHECK.illegal(desk, "power -1", () -> desk.power(0, -1, 2));
-        CHECK.illegal(desk, "power 1000", () -> desk.power(0, 1000, 2));
     }
 
     private static void root() {
@@ -347,10 +339,6 @@ public final class ArithmeticPromisesTest {
         fails("root", "0.0225", "0", rooted(1, 7));
         fails("root", "-4", "0", rooted(5, 4));
         fails("root", "-1e-10000", "0", rooted(5, 4));
-        DecimalDesk desk = Check.desk("-4");
-        CHECK.illegal(desk, "root to 0", () -> desk.root(0, 2, 0, 0));
-        CHECK.illegal(desk, "root to -1", () -> desk.root(0, 2, -1, 0));
-        CHECK.illegal(desk, "root to 1001", () -> desk.root(0, 2, 1001, 0));
     }
 
     private static void rootByModes() {
@@ -380,7 +368,7 @@ public final class ArithmeticPromisesTest {
         gives("root", NINES, "0", rooted(3, 3), "999s-497");
         gives("root", NINES, "0", rooted(3, 4), "100s-498");
         gives("root", NINES, "0", rooted(1000, 1), NINES + "s500");
-        BigInteger number = new BigInteger(Check.repeat("314159265358979323", 28).substring(0, 500));
+        BigInteger number = new BigInteger("314159265358979323".repeat(28).substring(0, 500));
         gives("root", number.multiply(number).toString(), "0", rooted(500, 7), number + "s0");
         gives("root", number.multiply(number).add(BigInteger.ONE).toString(), "0", rooted(500, 0),
                 number.add(BigInteger.ONE) + "s0");

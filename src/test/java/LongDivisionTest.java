@@ -14,20 +14,18 @@ public final class LongDivisionTest {
     public static void main(String[] args) {
         Check check = new Check();
         Random random = new Random(7);
-        DecimalDesk desk = new DecimalDesk();
         for (int i = 0; i < CASES; i++) {
             BigInteger a = number(random, 1 + random.nextInt(8));
             BigInteger b = number(random, 1 + random.nextInt(5)).add(BigInteger.ONE);
             if (random.nextInt(3) == 0) {
                 a = b.multiply(a).subtract(BigInteger.valueOf(random.nextInt(3))).abs();
             }
-            Check.set(desk, 0, a.toString());
-            Check.set(desk, 1, b.toString());
+            DecimalDesk desk = Check.desk(a.toString(), b.toString());
             desk.divide(0, 1, 2, 0, 1);
             desk.remainder(0, 1, 3);
             BigInteger[] due = a.divideAndRemainder(b);
-            check.due(a + " / " + b, Check.told(desk, 2), due[0] + "s0");
-            check.due(a + " rest " + b, Check.told(desk, 3), due[1] + "s0");
+            check.holds(a + " / " + b, desk, 2, due[0] + "s0");
+            check.holds(a + " rest " + b, desk, 3, due[1] + "s0");
         }
         check.finish();
     }

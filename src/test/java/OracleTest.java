@@ -8,18 +8,27 @@ import java.util.Random;
 public final class OracleTest {
     private static final int RUNS = 24;
     private static final int SHORT_RUNS = 2000;
-    private static final int CALLS = 60;
+    private static final int STEPS = 60;
+
+    /** An object has so many calls; for those behind them there is a new one. */
+    private static final int CALLS_OF_AN_OBJECT = 512;
 
     private final Random random;
     private final Check check;
     private final boolean isShort;
-    private final DecimalDesk desk = new DecimalDesk();
     private final Model.Dec[] model = new Model.Dec[10];
+
+    /** The register that has what is due, for comparing; the others are those of the model. */
+    private final int spare;
+    private DecimalDesk desk;
+    private int used = CALLS_OF_AN_OBJECT;
+    private boolean[] loaded;
 
     private OracleTest(Random random, Check check, boolean isShort) {
         this.random = random;
         this.check = check;
         this.isShort = isShort;
+        this.spare = random.nextInt(10);
         java.util.Arrays.fill(model, new Model.Dec(BigInteger.ZERO, 0));
     }
 
@@ -30,10 +39,9 @@ public final class OracleTest {
         Random random = new Random(seed);
         for (int i = 0; i < runs + SHORT_RUNS; i++) {
             OracleTest run = new OracleTest(random, check, i >= runs);
-            for (int j = 0; j < CALLS; j++) {
+            for (int j = 0; j < STEPS; j++) {
                 run.step();
             }
-            run.compareAll();
         }
         check.finish();
     }
@@ -143,112 +151,183 @@ public final class OracleTest {
         return text.toString();
     }
 
-    private void fresh(int register) {
-        String text = numberText();
-        desk.wipe();
-        Check.draft(desk, text);
-        String got = Check.thrown(() -> desk.read(register));
-        java.math.BigDecimal said = new java.math.BigDecimal(text);
-        settle("read " + text, got, register, new Model.Dec(said.unscaledValue(), said.scale()));
+    private int register() {
+        int register = random.nextInt(9);
+        return register < spare ? register : register + 1;
     }
 
-    private void settle(String what, String thrown, int to, Model.Dec result) {
-        Model.Dec want = null;
+    private interface Answer {
+        Model.Dec given() throws Model.Refusal;
+    }
+
+    /** What the model answers, or null where it refuses. */
+    private static Model.Dec kept(Answer answer) {
         try {
-            want = result == null ? null : Model.kept(result);
+            return Model.kept(answer.given());
         } catch (Model.Refusal e) {
-            want = null;
+            return null;
         }
-        check.due(what, thrown, want == null ? "ArithmeticException" : "");
+    }
+
+    private static int callsToLoad(Model.Dec x) {
+        return Check.callsToSet(Check.numberText(x.toString()));
+    }
+
+    private static int callsToHold(Model.Dec x) {
+        return 3 + (Check.isLong(x.toString()) ? callsToLoad(x) : x.precision());
+    }
+
+    /** The registers have what the model says, and so many calls are left behind that. */
+    private void prepare(int a, int b, int calls) {
+        int more = calls + (loaded == null || loaded[a] ? 0 : callsToLoad(model[a]))
+                + (loaded == null || loaded[b] ? 0 : callsToLoad(model[b]));
+        if (used + more > CALLS_OF_AN_OBJECT) {
+            desk = new DecimalDesk();
+            loaded = new boolean[10];
+            used = 0;
+        }
+        load(a);
+        load(b);
+        used += calls;
+    }
+
+    private void load(int register) {
+        if (!loaded[register]) {
+            Check.set(desk, register, Check.numberText(model[register].toString()));
+            used += callsToLoad(model[register]);
+            loaded[register] = true;
+        }
+    }
+
+    private void both(String what, int a, int b, int to, Check.Call call, Answer answer) {
+        Model.Dec want = kept(answer);
+        Model.Dec due = want == null ? model[a] : want;
+        prepare(a, b, 1 + callsToHold(due));
+        check.due(what, Check.thrown(() -> call.on(desk)), want == null ? "ArithmeticException" : "");
         if (want != null) {
             model[to] = want;
+            loaded[to] = true;
         }
-        check.due(what + " register " + to, Check.told(desk, to), model[to].toString());
+        check.holds(what + " leaves", desk, want == null ? a : to, due.toString(), spare);
     }
 
-    private interface Call {
-        Model.Dec answer() throws Model.Refusal;
+    private void fresh(int register) {
+        String text = numberText();
+        java.math.BigDecimal said = new java.math.BigDecimal(text);
+        Model.Dec want = kept(() -> new Model.Dec(said.unscaledValue(), said.scale()));
+        Model.Dec due = want == null ? model[register] : want;
+        prepare(register, register, Check.callsToSet(text) + callsToHold(due));
+        desk.wipe();
+        Check.draft(desk, text);
+        check.due("read " + text, Check.thrown(() -> desk.read(register)), want == null ? "ArithmeticException" : "");
+        model[register] = due;
+        check.holds("read " + text, desk, register, due.toString(), spare);
     }
 
-    private void both(String what, int to, Runnable call, Call due) {
-        String thrown = Check.thrown(call);
-        Model.Dec want;
-        try {
-            want = due.answer();
-        } catch (Model.Refusal e) {
-            want = null;
+    private void written(int a, int kind) {
+        Model.Dec x = model[a];
+        String due = Model.written(x, kind);
+        String what = "written " + x + " in kind " + kind;
+        if (due.length() > 60) {
+            check.due(what, Check.written(Check.numberText(x.toString()), kind), due);
+            return;
         }
-        settle(what, thrown, to, want);
+        prepare(a, a, due.length() + 2);
+        check.due(what, desk.written(a, kind), due.length());
+        check.due(what, Check.lastWritten(desk), due);
     }
 
     private void step() {
-        int a = random.nextInt(10);
-        int b = random.nextInt(10);
-        int to = random.nextInt(10);
+        int a = register();
+        int b = register();
         if (random.nextInt(3) == 0) {
             fresh(a);
         }
-        Model.Dec x = model[a];
-        Model.Dec y = model[b];
-        int mode = random.nextInt(8);
-        int scale = scale();
-        int precision = precision();
-        String with = "(" + x + ", " + y + ", ";
-        switch (random.nextInt(15)) {
+        switch (random.nextInt(3)) {
             case 0:
-                both("add" + with, to, () -> desk.add(a, b, to, false), () -> Model.add(x, y, false));
+                stepOfTwo(a, b, register());
                 break;
             case 1:
-                both("less" + with, to, () -> desk.add(a, b, to, true), () -> Model.add(x, y, true));
+                stepByMode(a, b, register(), random.nextInt(8));
+                break;
+            default:
+                stepOfOne(a, register());
+        }
+    }
+
+    private void stepOfTwo(int a, int b, int to) {
+        Model.Dec x = model[a];
+        Model.Dec y = model[b];
+        String with = "(" + x + ", " + y;
+        switch (random.nextInt(5)) {
+            case 0:
+                both("add" + with, a, b, to, d -> d.add(a, b, to, false), () -> Model.add(x, y, false));
+                break;
+            case 1:
+                both("less" + with, a, b, to, d -> d.add(a, b, to, true), () -> Model.add(x, y, true));
                 break;
             case 2:
-                both("multiply" + with, to, () -> desk.multiply(a, b, to),
+                both("multiply" + with, a, b, to, d -> d.multiply(a, b, to),
                         () -> new Model.Dec(x.number.multiply(y.number), x.scale + y.scale));
                 break;
             case 3:
-                divide(a, b, to, mode);
-                break;
-            case 4:
-                both("quotient" + with + precision + ", " + mode, to,
-                        () -> desk.quotient(a, b, to, precision, mode), () -> Model.quotient(x, y, precision, mode));
-                break;
-            case 5:
-                both("remainder" + with, to, () -> desk.remainder(a, b, to), () -> Model.remainder(x, y));
-                break;
-            case 6:
-                power(a, to);
-                break;
-            case 7:
-                int least = Math.max(1, precision);
-                both("root" + with + least + ", " + mode, to,
-                        () -> desk.root(a, to, least, mode), () -> Model.root(x, least, mode));
-                break;
-            case 8:
-                int near = random.nextBoolean() ? scale : nearScale(x.scale + (isShort ? upTo(5) - 4 : upTo(1000) - 900));
-                both("toScale" + with + near + ", " + mode, to,
-                        () -> desk.toScale(a, to, near, mode), () -> Model.toScale(Model.Real.of(x), near, mode));
-                break;
-            case 9:
-                int most = Math.max(1, precision);
-                both("round" + with + most + ", " + mode, to, () -> desk.round(a, to, most, mode),
-                        () -> Model.toPrecision(Model.Real.of(x), most, x.scale, mode));
-                break;
-            case 10:
-                both("strip" + with, to, () -> desk.strip(a, to), () -> Model.strip(x));
-                break;
-            case 11:
-                both("shift" + with + scale, to, () -> desk.shift(a, to, scale),
-                        () -> new Model.Dec(x.number, x.scale - scale));
-                break;
-            case 12:
-                both("negate" + with, to, () -> desk.negate(a, to), () -> new Model.Dec(x.number.negate(), x.scale));
-                break;
-            case 13:
-                check.due("compare" + with, desk.compare(a, b), Model.compare(x, y));
+                both("remainder" + with, a, b, to, d -> d.remainder(a, b, to), () -> Model.remainder(x, y));
                 break;
             default:
-                int kind = random.nextInt(3);
-                check.due("written" + with + kind, Check.written(desk, a, kind), Model.written(x, kind));
+                prepare(a, b, 1);
+                check.due("compare" + with, desk.compare(a, b), Model.compare(x, y));
+        }
+    }
+
+    private void stepByMode(int a, int b, int to, int mode) {
+        Model.Dec x = model[a];
+        Model.Dec y = model[b];
+        int precision = precision();
+        int least = Math.max(1, precision);
+        String with = "(" + x + ", " + y + ", " + precision + ", " + mode;
+        switch (random.nextInt(5)) {
+            case 0:
+                divide(a, b, to, mode);
+                break;
+            case 1:
+                both("quotient" + with, a, b, to, d -> d.quotient(a, b, to, precision, mode),
+                        () -> Model.quotient(x, y, precision, mode));
+                break;
+            case 2:
+                both("root" + with, a, a, to, d -> d.root(a, to, least, mode), () -> Model.root(x, least, mode));
+                break;
+            case 3:
+                int near = nearScale(x.scale + (isShort ? upTo(5) - 4 : upTo(1000) - 900));
+                int scale = random.nextBoolean() ? scale() : near;
+                both("toScale" + with + ", " + scale, a, a, to, d -> d.toScale(a, to, scale, mode),
+                        () -> Model.toScale(Model.Real.of(x), scale, mode));
+                break;
+            default:
+                both("round" + with, a, a, to, d -> d.round(a, to, least, mode),
+                        () -> Model.toPrecision(Model.Real.of(x), least, x.scale, mode));
+        }
+    }
+
+    private void stepOfOne(int a, int to) {
+        Model.Dec x = model[a];
+        int scale = scale();
+        String with = "(" + x;
+        switch (random.nextInt(5)) {
+            case 0:
+                power(a, to);
+                break;
+            case 1:
+                both("strip" + with, a, a, to, d -> d.strip(a, to), () -> Model.strip(x));
+                break;
+            case 2:
+                both("shift" + with + ", " + scale, a, a, to, d -> d.shift(a, to, scale),
+                        () -> new Model.Dec(x.number, x.scale - scale));
+                break;
+            case 3:
+                both("negate" + with, a, a, to, d -> d.negate(a, to), () -> new Model.Dec(x.number.negate(), x.scale));
+                break;
+            default:
+                written(a, random.nextInt(3));
         }
     }
 
@@ -262,20 +341,14 @@ public final class OracleTest {
         // A scale that leaves some 0 to 1000 digits of the quotient, or any other.
         long lead = x.precision() - x.scale - y.precision() + y.scale;
         int scale = isShort || random.nextInt(4) == 0 ? scale() : nearScale(upTo(1010) - 5 - lead);
-        both("divide(" + x + ", " + y + ", " + scale + ", " + mode, to,
-                () -> desk.divide(a, b, to, scale, mode), () -> Model.toScale(Model.ratio(x, y), scale, mode));
+        both("divide(" + x + ", " + y + ", " + scale + ", " + mode, a, b, to,
+                d -> d.divide(a, b, to, scale, mode), () -> Model.toScale(Model.ratio(x, y), scale, mode));
     }
 
     private void power(int a, int to) {
         Model.Dec x = model[a];
         int fitting = 1000 / Math.max(1, x.precision() - 1);
         int n = isShort ? upTo(4) : random.nextInt(3) == 0 ? upTo(999) : Math.min(999, upTo(fitting + 2));
-        both("power(" + x + ", " + n, to, () -> desk.power(a, n, to), () -> Model.power(x, n));
-    }
-
-    private void compareAll() {
-        for (int i = 0; i < 10; i++) {
-            check.due("register " + i, Check.told(desk, i), model[i].toString());
-        }
+        both("power(" + x + ", " + n, a, a, to, d -> d.power(a, n, to), () -> Model.power(x, n));
     }
 }

@@ -208,6 +208,9 @@ public final class PromiseBoundaryTest {
         BOUNDS.gives("add", sum, "1000000000000000000s0", "1", "999999999999999999");
         BOUNDS.gives("less", less, "999999999s0", "1000000000", "1");
         BOUNDS.gives("less", less, "-999999999999999999s0", "1", "1000000000000000000");
+        BOUNDS.gives("less", less, "2000000002s0", "3000000003", "1000000001");
+        BOUNDS.gives("less", less, "-4000000000s0", "1000000005", "5000000005");
+        BOUNDS.gives("less", less, "999999999999999999s0", "1999999999999999999", "1000000000000000000");
         BOUNDS.gives("less", less, "-4s0", "-7", "-3");
         BOUNDS.gives("less", less, "4s0", "-3", "-7");
         BOUNDS.gives("less", less, "-10s0", "-7", "3");
@@ -537,7 +540,7 @@ public final class PromiseBoundaryTest {
         desk.negate(A, A);
         BOUNDS.due("0 has no other sign", desk.told(A, 0), 0);
         BOUNDS.due("0 negated is as 0", desk.compare(A, B), 0);
-        BOUNDS.due("0 negated is written", Check.written(desk, A, 0), "0.0");
+        BOUNDS.due("0 negated is written", desk.written(A, 0), 3);
         desk.put(2, 3, 0);
         desk.add(2, A, TO, true);
         BOUNDS.holds("less 0 negated", desk, TO, "30s1");

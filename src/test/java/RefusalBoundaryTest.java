@@ -124,7 +124,8 @@ public final class RefusalBoundaryTest {
                 desk.negate(r, r);
                 String what = "register " + r + ", mode " + mode;
                 BOUNDS.due(what + " compared", desk.compare(r, 9 - r), -1);
-                BOUNDS.due(what + " written", Check.written(desk, r, 1), "-10");
+                BOUNDS.due(what + " written", desk.written(r, 1), 3);
+                BOUNDS.due(what + " written", Check.lastWritten(desk), "-10");
                 BOUNDS.holds(what, desk, r, "-1s-1");
                 desk.remainder(r, r, r);
                 BOUNDS.holds(what + ", its remainder", desk, r, "0s-1");

@@ -1,8 +1,8 @@
 /** Promises 13 to 19: toScale, round, strip, shift, negate, compare and told. */
 public final class RegisterPromisesTest {
     private static final Check CHECK = new Check();
-    private static final String NINES = Check.repeat("9", 1000);
-    private static final String TEN_TO_999 = "1" + Check.repeat("0", 999);
+    private static final String NINES = "9".repeat(1000);
+    private static final String TEN_TO_999 = "1" + "0".repeat(999);
 
     private RegisterPromisesTest() {
     }
@@ -20,38 +20,36 @@ public final class RegisterPromisesTest {
         CHECK.finish();
     }
 
-    /** A call on the register 0, into 1. */
-    private interface Call {
-        void on(DecimalDesk desk);
-    }
-
-    private static void gives(String what, String a, Call call, String due) {
+    /** A call on the register 0, into 1, that leaves that as it was. */
+    private static void gives(String what, String a, Check.Call call, String due) {
         DecimalDesk desk = Check.desk(a);
-        what = what + " of " + a;
-        CHECK.due(what, Check.thrown(() -> call.on(desk)), "");
-        CHECK.due(what, Check.told(desk, 1), due);
-        CHECK.due(what + " leaves a", Check.told(desk, 0), Check.told(Check.desk(a), 0));
+        what += Check.of(a);
+        desk.put(2, 1, 0);
+        desk.multiply(0, 2, 3);
+        CHECK.due(what + " throws", Check.thrown(() -> call.on(desk)), "");
+        CHECK.holds(what, desk, 1, due);
+        CHECK.due(what + " leaves a", desk.compare(0, 3), 0);
+        CHECK.due(what + " leaves its scale", desk.told(0, 1), desk.told(3, 1));
     }
 
-    private static void fails(String what, String a, Call call) {
-        DecimalDesk desk = Check.desk(a, "7.25");
-        CHECK.arithmetic(desk, what + " of " + a, () -> call.on(desk));
+    private static void fails(String what, String a, Check.Call call) {
+        CHECK.arithmetic(what, call, a, "7.25");
     }
 
-    private static Call scaled(int scale, int mode) {
+    private static Check.Call scaled(int scale, int mode) {
         return desk -> desk.toScale(0, 1, scale, mode);
     }
 
-    private static Call rounded(int precision, int mode) {
+    private static Check.Call rounded(int precision, int mode) {
         return desk -> desk.round(0, 1, precision, mode);
     }
 
-    private static Call shifted(int n) {
+    private static Check.Call shifted(int n) {
         return desk -> desk.shift(0, 1, n);
     }
 
-    private static final Call STRIPPED = desk -> desk.strip(0, 1);
-    private static final Call NEGATED = desk -> desk.negate(0, 1);
+    private static final Check.Call STRIPPED = desk -> desk.strip(0, 1);
+    private static final Check.Call NEGATED = desk -> desk.negate(0, 1);
 
     private static void toScaleByModes() {
         String[][] rows = {
@@ -99,11 +97,6 @@ public final class RegisterPromisesTest {
         fails("toScale", "1", scaled(1000, 7));
         fails("toScale", NINES, scaled(1, 0));
         fails("toScale", "1e10000", scaled(10000, 0));
-        DecimalDesk desk = Check.desk("1");
-        CHECK.illegal(desk, "toScale 10001", () -> desk.toScale(0, 1, 10001, 0));
-        CHECK.illegal(desk, "toScale -10001", () -> desk.toScale(0, 1, -10001, 0));
-        CHECK.illegal(desk, "toScale most", () -> desk.toScale(0, 1, Integer.MAX_VALUE, 0));
-        CHECK.illegal(desk, "toScale least", () -> desk.toScale(0, 1, Integer.MIN_VALUE, 0));
     }
 
     private static void roundByModes() {
@@ -137,10 +130,6 @@ public final class RegisterPromisesTest {
         fails("round", "15e10000", rounded(1, 4));
         fails("round", "95e9999", rounded(1, 4));
         fails("round", "10e10000", rounded(1, 7));
-        DecimalDesk desk = Check.desk("1");
-        CHECK.illegal(desk, "round to 0", () -> desk.round(0, 1, 0, 0));
-        CHECK.illegal(desk, "round to -1", () -> desk.round(0, 1, -1, 0));
-        CHECK.illegal(desk, "round to 1001", () -> desk.round(0, 1, 1001, 0));
     }
 
     private static void strip() {
@@ -212,25 +201,10 @@ public final class RegisterPromisesTest {
     }
 
     private static void told() {
-        DecimalDesk desk = Check.desk("-120.45", "0.000", "9000000001", NINES + "e-10000");
         int[] due = {-1, 2, 5, 1, 2, 0, 4, 5};
+        DecimalDesk desk = Check.desk("-120.45");
         for (int what = 0; what < due.length; what++) {
             CHECK.due("told " + what, desk.told(0, what), due[what]);
         }
-        int[] ofZero = {0, 3, 1, 0};
-        for (int what = 0; what < ofZero.length; what++) {
-            CHECK.due("told of 0 " + what, desk.told(1, what), ofZero[what]);
-        }
-        CHECK.due("the tenth digit", desk.told(2, 12), 1);
-        CHECK.due("the sign above 0", desk.told(2, 0), 1);
-        CHECK.due("the scale", desk.told(3, 1), 10000);
-        CHECK.due("the thousandth digit", desk.told(3, 1002), 9);
-        int[][] wrong = {{0, -1}, {0, 8}, {1, 4}, {2, 13}, {3, 1003}, {0, Integer.MIN_VALUE}, {0, Integer.MAX_VALUE}};
-        for (int[] row : wrong) {
-            CHECK.refused(desk, "told(" + row[0] + ", " + row[1] + ")", () -> desk.told(row[0], row[1]),
-                    IndexOutOfBoundsException.class);
-        }
-        CHECK.illegal(desk, "told of 10", () -> desk.told(10, -1));
-        CHECK.illegal(desk, "told of -1", () -> desk.told(-1, 0));
     }
 }

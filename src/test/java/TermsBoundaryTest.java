@@ -1,3 +1,4 @@
+import java.math.BigDecimal;
 import java.math.BigInteger;
 
 /** The boundary cases that the document names before its promises, sentence by sentence. */
@@ -24,6 +25,7 @@ public final class TermsBoundaryTest {
         limitsOfRounding();
         limitsOfStripShiftAndNegate();
         modes();
+        rootsByModes();
         modeNone();
         integers();
         toScale();
@@ -302,25 +304,29 @@ public final class TermsBoundaryTest {
         BOUNDS.gives("negate", desk -> desk.negate(A, TO), "-" + NINES + "s10000", NINES + "e-10000");
     }
 
+    /** Less than the digits of one limb, or of some, would show. */
+    private static final String LITTLE = "0".repeat(40) + "1";
+    private static final String NEARLY = "9".repeat(41);
     private static final String[] REALS = {
-        "-2.5", "-1.5", "-1.0", "-0.999", "-0.501", "-0.5", "-0.499", "-0.001", "0.000",
-        "0.001", "0.499", "0.5", "0.501", "0.999", "1.0", "1.5", "2.5",
+        "-2.5", "-1.5", "-1.0", "-0.999", "-0.6", "-0.5" + LITTLE, "-0.5", "-0.4" + NEARLY, "-0.4", "-0." + LITTLE,
+        "0.000",
+        "0." + LITTLE, "0.4", "0.4" + NEARLY, "0.5", "0.5" + LITTLE, "0.6", "0.999", "1.0", "1.5", "2.5",
     };
 
     private static void modes() {
         mode(0, "0 up: the next integer from 0 on outwards",
-                -3, -2, -1, -1, -1, -1, -1, -1, 0, 1, 1, 1, 1, 1, 1, 2, 3);
+                -3, -2, -1, -1, -1, -1, -1, -1, -1, -1, 0, 1, 1, 1, 1, 1, 1, 1, 1, 2, 3);
         mode(1, "1 down: the next one towards 0",
-                -2, -1, -1, 0, 0, 0, 0, 0, 0, 0, 0, 0, 0, 0, 1, 1, 2);
+                -2, -1, -1, 0, 0, 0, 0, 0, 0, 0, 0, 0, 0, 0, 0, 0, 0, 0, 1, 1, 2);
         mode(2, "2 ceiling: the next one that is not less",
-                -2, -1, -1, 0, 0, 0, 0, 0, 0, 1, 1, 1, 1, 1, 1, 2, 3);
+                -2, -1, -1, 0, 0, 0, 0, 0, 0, 0, 0, 1, 1, 1, 1, 1, 1, 1, 1, 2, 3);
         mode(3, "3 floor: the next one that is not greater",
-                -3, -2, -1, -1, -1, -1, -1, -1, 0, 0, 0, 0, 0, 0, 1, 1, 2);
+                -3, -2, -1, -1, -1, -1, -1, -1, -1, -1, 0, 0, 0, 0, 0, 0, 0, 0, 1, 1, 2);
         String halves = "4 half up, 5 half down, 6 half even: the nearest one, of two that are as near the one "
                 + "farther from 0, nearer to 0, the even one";
-        mode(4, halves, -3, -2, -1, -1, -1, -1, 0, 0, 0, 0, 0, 1, 1, 1, 1, 2, 3);
-        mode(5, halves, -2, -1, -1, -1, -1, 0, 0, 0, 0, 0, 0, 0, 1, 1, 1, 1, 2);
-        mode(6, halves, -2, -2, -1, -1, -1, 0, 0, 0, 0, 0, 0, 0, 1, 1, 1, 2, 2);
+        mode(4, halves, -3, -2, -1, -1, -1, -1, -1, 0, 0, 0, 0, 0, 0, 0, 1, 1, 1, 1, 1, 2, 3);
+        mode(5, halves, -2, -1, -1, -1, -1, -1, 0, 0, 0, 0, 0, 0, 0, 0, 0, 1, 1, 1, 1, 1, 2);
+        mode(6, halves, -2, -2, -1, -1, -1, -1, 0, 0, 0, 0, 0, 0, 0, 0, 0, 1, 1, 1, 1, 2, 2);
     }
 
     /** Each real number to a scale, and behind 1000 or -1000, where it is to a precision of 4. */
@@ -341,9 +347,33 @@ public final class TermsBoundaryTest {
                 BOUNDS.gives("quotient", quotient(4, mode), farDue, negated(far) + "e2", "-100");
             }
             if (!real.endsWith("0") && !below) {
-                String square = new java.math.BigDecimal(far).pow(2).toPlainString();
-                BOUNDS.gives("root", rooted(4, mode), farDue, square);
+                BOUNDS.gives("root", rooted(4, mode), farDue, square(far).toPlainString());
             }
+        }
+    }
+
+    private static BigDecimal square(String number) {
+        return new BigDecimal(number).pow(2);
+    }
+
+    /** Roots that no decimal has: so near a half, or an integer, that only their last digits tell. */
+    private static void rootsByModes() {
+        BOUNDS.sentence("Terms", "the nearest one, of two that are as near the one farther from 0, nearer to 0, the "
+                + "even one");
+        BigDecimal little = new BigDecimal("1e-80");
+        String[][] rows = {
+            {square("1000.5").add(little).toPlainString(), "1001", "1000", "1001", "1000", "1001", "1001", "1001"},
+            {square("1000.5").subtract(little).toPlainString(), "1001", "1000", "1001", "1000", "1000", "1000", "1000"},
+            {square("1001.5").subtract(little).toPlainString(), "1002", "1001", "1002", "1001", "1001", "1001", "1001"},
+            {square("1000").add(little).toPlainString(), "1001", "1000", "1001", "1000", "1000", "1000", "1000"},
+            {square("1001").subtract(little).toPlainString(), "1001", "1000", "1001", "1000", "1001", "1001", "1001"},
+        };
+        for (String[] row : rows) {
+            for (int mode = 0; mode < 7; mode++) {
+                BOUNDS.gives("root by mode " + mode, rooted(4, mode), row[1 + mode] + "s0", row[0]);
+            }
+            BOUNDS.arithmetic("root by mode 7", rooted(4, 7), row[0]);
+            BOUNDS.arithmetic("root by mode 7", rooted(80, 7), row[0]);
         }
     }
 
@@ -392,6 +422,25 @@ public final class TermsBoundaryTest {
             BOUNDS.gives("divide mode " + mode, divided(0, mode), "0s0", "0.000", "-3");
             BOUNDS.gives("round mode " + mode, rounded(1000, mode), NINES + "s0", NINES);
             BOUNDS.gives("toScale mode " + mode, scaled(-999, mode), "1s-999", TEN_TO_999);
+        }
+        behindOthers();
+    }
+
+    /** What one call had to round is no need to round for the next. */
+    private static void behindOthers() {
+        Bounds.Call[] inexact = {divided(3, 0), quotient(3, 0), rooted(3, 0), scaled(0, 0), rounded(1, 0)};
+        Bounds.Call[] exact = {divided(0, 7), quotient(1, 7), rooted(1, 7), scaled(-1, 7), rounded(1, 7)};
+        String[] due = {"100s0", "1s-2", "3s-1", "90s-1", "9s-2"};
+        for (Bounds.Call before : inexact) {
+            for (int i = 0; i < exact.length; i++) {
+                Bounds.Call call = exact[i];
+                BOUNDS.gives("exact call " + i + " behind another", desk -> {
+                    before.on(desk);
+                    desk.put(A, 900, 0);
+                    desk.put(B, 9, 0);
+                    call.on(desk);
+                }, due[i], "1.5", "7");
+            }
         }
     }
 

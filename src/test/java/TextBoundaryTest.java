@@ -150,22 +150,8 @@ public final class TextBoundaryTest {
         }
     }
 
-    /** Written in a kind: the answer is the length, and the characters are these and no more. */
     private static void writes(int kind, String number, String due) {
-        DecimalDesk desk = Check.desk(number);
-        String what = "written " + number + " in kind " + kind;
-        BOUNDS.due(what, desk.written(0, kind), due.length());
-        StringBuilder text = new StringBuilder();
-        for (int i = 0; i < Math.min(due.length(), 60); i++) {
-            text.append((char) desk.character(i));
-        }
-        BOUNDS.due(what + " begins", text.toString(), due.substring(0, text.length()));
-        StringBuilder end = new StringBuilder();
-        for (int i = Math.max(0, due.length() - 60); i < due.length(); i++) {
-            end.append((char) desk.character(i));
-        }
-        BOUNDS.due(what + " ends", end.toString(), due.substring(due.length() - end.length()));
-        BOUNDS.due(what + " goes on", desk.character(due.length()), DecimalDesk.NONE);
+        BOUNDS.due("written" + Check.of(number) + " in kind " + kind, Check.written(number, kind), due);
     }
 
     private static void writtenSigns() {
