@@ -10,22 +10,16 @@ public final class ArithmeticPromisesTest {
     }
 
     public static void main(String[] args) {
-        add();
-        addAtTheLimits();
-        multiply();
-        divideByModes();
-        divideAtTheLimits();
-        beyondTheRoom();
-        quotient();
-        quotientExactly();
-        quotientAtTheLimits();
-        remainder();
-        power();
-        root();
-        rootByModes();
-        rootAtTheLimits();
-        intoItself();
-        CHECK.finish();
+        Runnable[] parts = {
+            ArithmeticPromisesTest::add, ArithmeticPromisesTest::addAtTheLimits, ArithmeticPromisesTest::multiply,
+            ArithmeticPromisesTest::divideByModes, ArithmeticPromisesTest::divideAtTheLimits,
+            ArithmeticPromisesTest::beyondTheRoom, ArithmeticPromisesTest::quotient,
+            ArithmeticPromisesTest::quotientExactly, ArithmeticPromisesTest::quotientAtTheLimits,
+            ArithmeticPromisesTest::remainder, ArithmeticPromisesTest::power, ArithmeticPromisesTest::root,
+            ArithmeticPromisesTest::rootByModes, ArithmeticPromisesTest::rootAtTheLimits,
+            ArithmeticPromisesTest::intoItself,
+        };
+        CHECK.run(parts);
     }
 
     /** A call on the registers 0 and 1, into 2, that leaves those as they were. */

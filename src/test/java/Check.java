@@ -30,6 +30,14 @@ class Check {
         }
     }
 
+    /** A part that breaks off is a wrong answer, and those behind it are asked nevertheless. */
+    void run(Runnable... parts) {
+        for (Runnable part : parts) {
+            due("what comes next breaks off with", thrown(part), "");
+        }
+        finish();
+    }
+
     void finish() {
         System.out.println(asked + " answers, " + wrong + " wrong");
         if (wrong != 0 || asked == 0) {

@@ -17,31 +17,17 @@ public final class PromiseBoundaryTest {
     }
 
     public static void main(String[] args) {
-        newObject();
-        write();
-        writeFull();
-        wipe();
-        read();
-        readRefused();
-        put();
-        add();
-        multiply();
-        divide();
-        quotient();
-        exactQuotient();
-        remainder();
-        power();
-        root();
-        toScale();
-        round();
-        strip();
-        shift();
-        negate();
-        compare();
-        told();
-        written();
-        character();
-        BOUNDS.finish();
+        Runnable[] parts = {
+            PromiseBoundaryTest::newObject, PromiseBoundaryTest::write, PromiseBoundaryTest::writeFull,
+            PromiseBoundaryTest::wipe, PromiseBoundaryTest::read, PromiseBoundaryTest::readRefused,
+            PromiseBoundaryTest::put, PromiseBoundaryTest::add, PromiseBoundaryTest::multiply,
+            PromiseBoundaryTest::divide, PromiseBoundaryTest::quotient, PromiseBoundaryTest::exactQuotient,
+            PromiseBoundaryTest::remainder, PromiseBoundaryTest::power, PromiseBoundaryTest::root,
+            PromiseBoundaryTest::toScale, PromiseBoundaryTest::round, PromiseBoundaryTest::strip,
+            PromiseBoundaryTest::shift, PromiseBoundaryTest::negate, PromiseBoundaryTest::compare,
+            PromiseBoundaryTest::told, PromiseBoundaryTest::written, PromiseBoundaryTest::character,
+        };
+        BOUNDS.run(parts);
     }
 
     private static void newObject() {

@@ -19,13 +19,12 @@ public final class RefusalBoundaryTest {
     }
 
     public static void main(String[] args) {
-        noRegister();
-        noMode();
-        lastRegistersAndModes();
-        firstNamedOfRead();
-        firstNamed();
-        nothingChanges();
-        BOUNDS.finish();
+        Runnable[] parts = {
+            RefusalBoundaryTest::noRegister, RefusalBoundaryTest::noMode, RefusalBoundaryTest::lastRegistersAndModes,
+            RefusalBoundaryTest::firstNamedOfRead, RefusalBoundaryTest::firstNamed,
+            RefusalBoundaryTest::nothingChanges,
+        };
+        BOUNDS.run(parts);
     }
 
     private static void outside() {

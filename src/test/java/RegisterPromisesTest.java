@@ -8,16 +8,13 @@ public final class RegisterPromisesTest {
     }
 
     public static void main(String[] args) {
-        toScaleByModes();
-        toScaleAtTheLimits();
-        roundByModes();
-        roundAtTheLimits();
-        strip();
-        shift();
-        negate();
-        compare();
-        told();
-        CHECK.finish();
+        Runnable[] parts = {
+            RegisterPromisesTest::toScaleByModes, RegisterPromisesTest::toScaleAtTheLimits,
+            RegisterPromisesTest::roundByModes, RegisterPromisesTest::roundAtTheLimits, RegisterPromisesTest::strip,
+            RegisterPromisesTest::shift, RegisterPromisesTest::negate, RegisterPromisesTest::compare,
+            RegisterPromisesTest::told,
+        };
+        CHECK.run(parts);
     }
 
     /** A call on the register 0, into 1, that leaves that as it was. */

@@ -14,25 +14,17 @@ public final class TermsBoundaryTest {
     }
 
     public static void main(String[] args) {
-        lastCall();
-        precisionOfZero();
-        sameValue();
-        registers();
-        limitsOfReadAndPut();
-        limitsOfAddAndMultiply();
-        limitsOfDivision();
-        limitsOfPowerAndRoot();
-        limitsOfRounding();
-        limitsOfStripShiftAndNegate();
-        modes();
-        rootsByModes();
-        modeNone();
-        integers();
-        toScale();
-        toPrecisionExactly();
-        toPrecisionRounded();
-        scalesOfAnySize();
-        BOUNDS.finish();
+        Runnable[] parts = {
+            TermsBoundaryTest::lastCall, TermsBoundaryTest::precisionOfZero, TermsBoundaryTest::sameValue,
+            TermsBoundaryTest::registers, TermsBoundaryTest::limitsOfReadAndPut,
+            TermsBoundaryTest::limitsOfAddAndMultiply, TermsBoundaryTest::limitsOfDivision,
+            TermsBoundaryTest::limitsOfPowerAndRoot, TermsBoundaryTest::limitsOfRounding,
+            TermsBoundaryTest::limitsOfStripShiftAndNegate, TermsBoundaryTest::modes, TermsBoundaryTest::rootsByModes,
+            TermsBoundaryTest::modeNone, TermsBoundaryTest::integers, TermsBoundaryTest::toScale,
+            TermsBoundaryTest::toPrecisionExactly, TermsBoundaryTest::toPrecisionRounded,
+            TermsBoundaryTest::scalesOfAnySize,
+        };
+        BOUNDS.run(parts);
     }
 
     /** The last call that is promised, behind 511 others of each sort. */

@@ -7,17 +7,12 @@ public final class TextBoundaryTest {
     }
 
     public static void main(String[] args) {
-        numberTexts();
-        noNumberTexts();
-        strangeCharacters();
-        saidDecimals();
-        saidScales();
-        writtenSigns();
-        kind0();
-        kind1();
-        kind2();
-        kind2OfZero();
-        BOUNDS.finish();
+        Runnable[] parts = {
+            TextBoundaryTest::numberTexts, TextBoundaryTest::noNumberTexts, TextBoundaryTest::strangeCharacters,
+            TextBoundaryTest::saidDecimals, TextBoundaryTest::saidScales, TextBoundaryTest::writtenSigns,
+            TextBoundaryTest::kind0, TextBoundaryTest::kind1, TextBoundaryTest::kind2, TextBoundaryTest::kind2OfZero,
+        };
+        BOUNDS.run(parts);
     }
 
     private static void aNumberText() {

@@ -8,13 +8,11 @@ public final class TextPromisesTest {
     }
 
     public static void main(String[] args) {
-        readNumberTexts();
-        writtenKind0();
-        writtenKind1();
-        writtenKind2();
-        writtenLong();
-        writtenOfEveryLength();
-        CHECK.finish();
+        Runnable[] parts = {
+            TextPromisesTest::readNumberTexts, TextPromisesTest::writtenKind0, TextPromisesTest::writtenKind1,
+            TextPromisesTest::writtenKind2, TextPromisesTest::writtenLong, TextPromisesTest::writtenOfEveryLength,
+        };
+        CHECK.run(parts);
     }
 
     private static void said(String text, String due) {
