@@ -85,7 +85,7 @@ public final class TextBoundaryTest {
         saysNothing("0e" + "0".repeat(1098));
     }
 
-    /** Each character that is in no number text, in each place of one, so near a digit it may look. */
+    /** Each character that is in no number text, in each place of one, also those beside the digits. */
     private static void strangeCharacters() {
         aNumberText();
         for (char c = 1; c < 256; c++) {
