@@ -3,7 +3,8 @@
  * rounded in eight ways to a scale or to a precision.
  *
  * <p>Every call works in scratch numbers that the constructor made and stores its result last, so
- * that a call that throws changes nothing and no call makes new objects (but for one longer text).
+ * that a call that throws changes nothing, and no call makes an object but its exception (and once a
+ * longer row for the text).
  */
 public final class DecimalDesk {
     public static final int NONE = -1;

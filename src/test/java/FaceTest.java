@@ -1,7 +1,10 @@
+import java.io.IOException;
 import java.lang.reflect.Constructor;
 import java.lang.reflect.Field;
 import java.lang.reflect.Method;
 import java.lang.reflect.Modifier;
+import java.nio.file.Files;
+import java.nio.file.Path;
 import java.util.ArrayList;
 import java.util.Collections;
 import java.util.List;
@@ -29,11 +32,34 @@ public final class FaceTest {
         "int written(int int) throws IllegalArgumentException", "int character(int)",
     };
 
+    private static final Path DOCUMENT = Path.of("..", "shared", "DOC.md");
+    private static final Path SOURCE = Path.of("src", "main", "java", "DecimalDesk.java");
+
     private FaceTest() {
     }
 
-    public static void main(String[] args) {
+    public static void main(String[] args) throws IOException, ReflectiveOperationException {
         Check check = new Check();
+        members(check);
+        check.due("the value of NONE", DecimalDesk.class.getField("NONE").getInt(null), -1);
+        if (Files.exists(DOCUMENT)) {
+            lines(check, Files.readString(DOCUMENT), Files.readString(SOURCE));
+        }
+        check.finish();
+    }
+
+    /** Each line of the document's code block stands in the source, with the names of its parameters. */
+    private static void lines(Check check, String document, String source) {
+        String section = document.substring(document.indexOf("## The public face"));
+        String[] block = section.substring(section.indexOf("```java\n") + 8).split("```")[0].split("\n");
+        check.due("the lines of the face", block.length, METHODS.length + 4);
+        for (String line : block) {
+            String written = line.contains("(") ? line.replace(";", " {") : line;
+            check.due("the source has: " + written, source.contains("\n" + written + "\n"), true);
+        }
+    }
+
+    private static void members(Check check) {
         Class<?> face = DecimalDesk.class;
         check.due("the class", Modifier.toString(face.getModifiers()), "public final");
         List<String> methods = new ArrayList<>();
@@ -55,7 +81,6 @@ public final class FaceTest {
                 check.due("the constant", field.toString(), "public static final int DecimalDesk.NONE");
             }
         }
-        check.finish();
     }
 
     private static String spelled(Method method) {

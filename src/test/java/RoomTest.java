@@ -1,7 +1,10 @@
 import com.sun.management.ThreadMXBean;
 import java.lang.management.ManagementFactory;
 
-/** An object and its 512 calls, the dearest ones, keep to the room that a run of calls has. */
+/**
+ * An object and its 512 calls, the dearest ones, keep to the room that a run of calls has; no call makes
+ * anything, but that the first long text has a row made.
+ */
 public final class RoomTest {
     private static final Check CHECK = new Check();
     private static final ThreadMXBean THREADS = (ThreadMXBean) ManagementFactory.getThreadMXBean();
@@ -9,6 +12,10 @@ public final class RoomTest {
     /** 7.3 million elements, were each of them an int. */
     private static final long BYTES_OF_ROOM = 7300000L * 4;
     private static final int CALLS = 512;
+    private static final int DEAR_CALLS = 12;
+
+    /** The digits and the size of the scale of a decimal whose text has its place in the first row. */
+    private static final int SHORT_TEXT = 1080;
     private static final String[] NUMBERS = {"9".repeat(1000), "7".repeat(1000) + "e-10000", "1e10000", "2"};
 
     private RoomTest() {
@@ -17,7 +24,37 @@ public final class RoomTest {
     public static void main(String[] args) {
         CHECK.due("a first run's bytes fit", bytesOfRun() < BYTES_OF_ROOM, true);
         CHECK.due("a second run's bytes fit", bytesOfRun() < BYTES_OF_ROOM, true);
+        dearCalls();
+        texts();
         CHECK.finish();
+    }
+
+    private static void dearCalls() {
+        DecimalDesk desk = Check.desk(NUMBERS);
+        desk.written(2, 1);
+        for (int i = 0; i < DEAR_CALLS; i++) {
+            long start = made();
+            dearCall(desk, i);
+            long bytes = made() - start;
+            CHECK.due("the bytes that dear call " + i + " makes", bytes, 0L);
+        }
+    }
+
+    private static void texts() {
+        DecimalDesk desk = new DecimalDesk();
+        desk.put(0, 1, 1 - SHORT_TEXT);
+        desk.put(1, 1, -SHORT_TEXT);
+        desk.put(2, 1, -10000);
+        CHECK.due("the bytes for a short text", bytesOfText(desk, 0), 0L);
+        CHECK.due("bytes for the first long one", bytesOfText(desk, 1) > 0, true);
+        CHECK.due("the bytes for a second", bytesOfText(desk, 2), 0L);
+        CHECK.due("the bytes for a short one again", bytesOfText(desk, 0), 0L);
+    }
+
+    private static long bytesOfText(DecimalDesk desk, int register) {
+        long start = made();
+        desk.written(register, 1);
+        return made() - start;
     }
 
     private static long made() {
@@ -32,7 +69,7 @@ public final class RoomTest {
             used += Check.callsToSet(number);
         }
         for (int i = 0; used + i < CALLS; i++) {
-            dearCall(desk, i % 12);
+            dearCall(desk, i % DEAR_CALLS);
         }
         return made() - start;
     }
