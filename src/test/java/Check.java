@@ -7,6 +7,7 @@ class Check {
     private static final int DIGITS_SEEN = 20;
     private static final int CHARACTERS_READ = 300;
     private static final String DRAFT = "-12.5e3";
+    private static final String MACHINE_DIVISION = "/ by zero";
 
     /** The registers that a refused call's object has filled beside those that the call is on. */
     static final int TO = 7;
@@ -51,7 +52,9 @@ class Check {
             call.run();
             return "";
         } catch (RuntimeException e) {
-            return e.getClass().getSimpleName();
+            // The machine's other exceptions have names of their own; this one bears the document's.
+            boolean machine = MACHINE_DIVISION.equals(e.getMessage());
+            return e.getClass().getSimpleName() + (machine ? " of the machine" : "");
         }
     }
 
