@@ -47,8 +47,9 @@ import javax.tools.StandardJavaFileManager;
 import javax.tools.ToolProvider;
 
 /**
- * The rules of LANGUAGE.md that a look at the source can tell, by their numbers. The class needs less
- * than they leave it, and is held to that: no try, no text but in exceptions, no recursion.
+ * Rules of LANGUAGE.md, or parts of them, that are easily told from the source, by their numbers. The
+ * class needs less than they leave it, and is held to that: no try, no text but in exceptions, no
+ * recursion.
  */
 public final class LanguageTest extends TreePathScanner<Void, Void> {
     private static final Check CHECK = new Check();

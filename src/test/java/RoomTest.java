@@ -13,6 +13,10 @@ public final class RoomTest {
     private static final long BYTES_OF_ROOM = 7300000L * 4;
     private static final int CALLS = 512;
     private static final int DEAR_CALLS = 12;
+    private static final int LIGHT_CALLS = 10;
+
+    /** The characters 1.5e. */
+    private static final long DRAFT = 0x65352e31L;
 
     /** The digits and the size of the scale of a decimal whose text has its place in the first row. */
     private static final int SHORT_TEXT = 1080;
@@ -25,6 +29,7 @@ public final class RoomTest {
         CHECK.due("a first run's bytes fit", bytesOfRun() < BYTES_OF_ROOM, true);
         CHECK.due("a second run's bytes fit", bytesOfRun() < BYTES_OF_ROOM, true);
         dearCalls();
+        lightCalls();
         texts();
         CHECK.finish();
     }
@@ -37,6 +42,36 @@ public final class RoomTest {
             dearCall(desk, i);
             long bytes = made() - start;
             CHECK.due("the bytes that dear call " + i + " makes", bytes, 0L);
+        }
+    }
+
+    /** With those that dearCall has, every call of the face; the first time round classes may be loaded. */
+    private static void lightCalls() {
+        DecimalDesk desk = Check.desk(NUMBERS);
+        for (int round = 0; round < 2; round++) {
+            for (int i = 0; i < LIGHT_CALLS; i++) {
+                long start = made();
+                lightCall(desk, i);
+                long bytes = made() - start;
+                if (round > 0) {
+                    CHECK.due("the bytes that light call " + i + " makes", bytes, 0L);
+                }
+            }
+        }
+    }
+
+    private static void lightCall(DecimalDesk desk, int i) {
+        switch (i) {
+            case 0: desk.write(DRAFT); break;
+            case 1: desk.write('3'); break;
+            case 2: desk.read(4); break;
+            case 3: desk.wipe(); break;
+            case 4: desk.put(4, Long.MIN_VALUE, 5); break;
+            case 5: desk.strip(2, 4); break;
+            case 6: desk.shift(0, 4, 7); break;
+            case 7: desk.negate(0, 4); break;
+            case 8: desk.told(0, 1002); break;
+            default: desk.character(0);
         }
     }
 
