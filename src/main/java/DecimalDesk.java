@@ -696,7 +696,11 @@ public final class DecimalDesk {
 
         private long guessLimb(int[] rest, int top) {
             int length = divisor.size;
-            long first = divisor.limbs[length - 1];
+            long first = length > 0 ? divisor.limbs[length - 1] : 0;
+            if (first <= 0) {
+                // Never so, as no number has a 0 on top: but a divisor is looked at before it divides.
+                return 0;
+            }
             long second = length > 1 ? divisor.limbs[length - 2] : 0;
             long third = length > 1 ? rest[top - 2] : 0;
             long head = (long) rest[top] * BASE + rest[top - 1];
